@@ -70,6 +70,7 @@ public final class LexTables {
         int node = tokenCount;
         codes[node] = code;
         letters[node] = arg & LETTER_MASK;
+        // Where there is no part any node will do, as what is read through it is not used.
         firsts[node] = parts > 0 ? stack[bottom] : 0;
         seconds[node] = parts > 1 ? stack[bottom + 1] : 0;
         tokenCount = node + 1;

@@ -352,6 +352,10 @@ public final class PromiseTest {
         due("empty text, empty row", x.matches(2), 1);
         write(x, "012301230123012301230123012301");
         due("thirty letters", x.matches(2), 1);
+        LexTables y = made("0;1;2;3;.;", "3");
+        for (int rule = 0; rule < 5; rule++) {
+            due("one of five rules, " + rule, y.matches(rule), rule >= 3 ? 1 : 0);
+        }
     }
 
     private static void promise10Count() {
@@ -371,9 +375,10 @@ public final class PromiseTest {
         due("a row found in two ways is one row", made("00|0.||;", "").count(0, 1), 4);
         due("and so in repetitions", made("0*0*,;", "").count(0, 4), 1);
         due("the last letter counts as others", made("3...,,,;", "").count(0, 4), 64);
-        due("the text stays", x.sortOf(0, 1), 0);
-        dueCut(x, "1:0");
-        due("a text after count", x.type(1), 2);
+        LexTables y = made("0;1;2;01,2|*;", "201210");
+        due("count beside a text", y.count(3, 4), 5);
+        dueCut(y, "4:3 1:1 1:0");
+        due("the text stays", y.type(1), 7);
     }
 
     private static void promise11SortOf() {
