@@ -1,7 +1,7 @@
 /** Long mixed runs of calls, each answer compared with the model's. */
 public final class ModelTest {
     private static final int RUNS = 3000;
-    private static final int CALLS = 500;
+    private static final int CALLS = 512;
     private static final int[] ODD = {
         Integer.MIN_VALUE, Integer.MIN_VALUE + 1, -5, -1, 8, 30, 31, 32, 40, 41, Integer.MAX_VALUE
     };
