@@ -1,7 +1,26 @@
 /** Counts and prints the answers that are not the due ones. */
 final class Checks {
+    private static final long LONGEST_MILLIS = 10 * 60 * 1000;
+
     private int made = 0;
     private int wrong = 0;
+
+    Checks() {
+        Thread watch = new Thread(Checks::failWhenTooLong);
+        watch.setDaemon(true);
+        watch.start();
+    }
+
+    /** A call that does not end must fail the test, not hold it up for ever. */
+    private static void failWhenTooLong() {
+        try {
+            Thread.sleep(LONGEST_MILLIS);
+        } catch (InterruptedException interrupted) {
+            return;
+        }
+        System.out.println("a call does not end");
+        Runtime.getRuntime().halt(1);
+    }
 
     /** Runs the checks of one sentence; that they fail, or that there are none, is told by its name. */
     void sentence(String sentence, Runnable checks) {

@@ -311,6 +311,10 @@ public final class TokenEdgesTest {
             CHECKS.due("rows of EMPTY", Runs.counts("e"), "1 0 0 0 0");
             CHECKS.due("the empty text", Runs.matches("e", ""), 1);
             CHECKS.due("one letter", Runs.matches("e", "0"), 0);
+            LexTables x = Runs.made("e;", "01");
+            for (int place = 0; place <= 2; place++) {
+                CHECKS.due("the empty word at " + place, x.sortOf(place, place), 0);
+            }
         });
         CHECKS.sentence("BUILDING, THEN: a row of the first or of the second may be empty", () -> {
             CHECKS.due("the first", Runs.counts("e1,"), "0 1 0 0 0");
@@ -406,10 +410,12 @@ public final class TokenEdgesTest {
             }
             LexTables x = Runs.made(Runs.FORTY, Runs.THIRTY);
             x.clear();
-            CHECKS.due("thirty words of one letter", x.words(), 30);
             CHECKS.due("a full text stays full", x.type(0), -1);
-            CHECKS.due("a rule for it", Runs.build(x, ".*;"), 0);
-            CHECKS.due("is a rule of thirty letters", x.length(0), 30);
+            CHECKS.due("rules that tell the letters apart", Runs.build(x, "0;1;2;3;"), 0);
+            CHECKS.due("thirty words of one letter", x.words(), 30);
+            for (int word = 0; word < 30; word++) {
+                CHECKS.due("letter " + word, x.sort(word), Runs.THIRTY.charAt(word) - '0');
+            }
         });
         CHECKS.sentence("Promise 3: clear where there is nothing to remove", () -> {
             Consumer<LexTables> twice = x -> {
